@@ -123,7 +123,7 @@ public final class PromisesTest {
         CowMemory x = fullOfPrivatePages(2);
         for (int p = 0; p < 4; p++) {
             for (int page = 0; page < 5; page++) {
-                x.unmap(p, page);
+                due("3: unmap of a page of process " + p, x.unmap(p, page), page);
                 due("2: map again", x.map(p, page, true), page);
                 for (int cell = 4 * page; cell < 4 * page + 4; cell++) {
                     due("2: read after map again", x.read(p, cell), 0);
