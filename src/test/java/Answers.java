@@ -24,6 +24,10 @@ final class Answers {
         }
     }
 
+    int checked() {
+        return checked;
+    }
+
     private void report(String row) {
         wrong++;
         if (wrong <= MOST_PRINTED) {

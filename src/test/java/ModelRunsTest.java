@@ -18,47 +18,21 @@ public final class ModelRunsTest {
 
     public static void main(String[] args) {
         for (int run = 0; run < RUNS; run++) {
-            startRun(run);
-            CowMemory x = new CowMemory(FRAMES[run % FRAMES.length]);
-            Model model = new Model();
-            for (int call = 0; call < CALLS; call++) {
-                compareOneCall("run " + run + ", call " + call + ": ", x, model);
-            }
+            makeRun(run, CALLS);
         }
-        noCallFailsPastThePromise();
+        for (int run = 0; run < LONG_RUNS; run++) {
+            makeRun(run, CALLS_OF_A_LONG_RUN);
+        }
         answers.finish();
     }
 
-    private static void startRun(int run) {
+    private static void makeRun(int run, int calls) {
         seed = run + 1;
         endings = new int[] {1, 4, 16, 64}[run % 4];
         oddness = new int[] {0, 2, 8}[run % 3];
-    }
-
-    // The answers past call 512 are free, but a call must still not throw.
-    private static void noCallFailsPastThePromise() {
-        for (int run = 0; run < LONG_RUNS; run++) {
-            startRun(run);
-            CowMemory x = new CowMemory(FRAMES[run % FRAMES.length]);
-            for (int call = 0; call < CALLS_OF_A_LONG_RUN; call++) {
-                anyCall(x);
-            }
-        }
-    }
-
-    private static void anyCall(CowMemory x) {
-        switch (below(16)) {
-            case 0, 1, 2 -> x.map(number(4), number(5), below(2) == 0);
-            case 3 -> x.unmap(number(4), number(5));
-            case 4, 5 -> x.attach(place(), place());
-            case 6, 7 -> x.fork(number(4), number(4));
-            case 8 -> x.exit(1 + number(3));
-            case 9, 10 -> x.write(number(4), number(20), value());
-            case 11 -> x.read(number(4), number(20));
-            case 12 -> x.isMapped(number(4), number(5));
-            case 13 -> x.showing(number(4), number(5));
-            case 14 -> x.total();
-            default -> x.sheets();
+        Twins x = new Twins(answers, "run " + run, FRAMES[run % FRAMES.length]);
+        for (int call = 0; call < calls; call++) {
+            makeCall(x);
         }
     }
 
@@ -80,72 +54,28 @@ public final class ModelRunsTest {
         return below(8) == 0 ? ODD_NUMBERS[below(ODD_NUMBERS.length)] : below(1 << 20) * 4001;
     }
 
-    private static void compareOneCall(String where, CowMemory x, Model model) {
-        int kind = below(16);
-        if (kind < 3) {
-            compareMapping(where, x, model);
-        } else if (kind < 5) {
-            compareAttach(where, x, model);
-        } else if (kind < 6) {
-            compareFork(where, x, model);
-        } else if (kind < 8) {
-            compareEnding(where, x, model);
-        } else if (kind < 11) {
-            compareWrite(where, x, model);
-        } else {
-            compareAsking(where, x, model);
+    private static void makeCall(Twins x) {
+        switch (below(16)) {
+            case 0, 1, 2 -> x.map(number(4), number(5), below(2) == 0);
+            case 3, 4 -> x.attach(place(), place());
+            case 5 -> x.fork(number(4), number(4));
+            case 6, 7 -> end(x);
+            case 8, 9, 10 -> x.write(number(4), number(20), value());
+            case 11 -> x.isMapped(number(4), number(5));
+            case 12 -> x.showing(number(4), number(5));
+            case 13 -> x.total();
+            default -> x.read(number(4), number(20));
         }
-    }
-
-    private static void compareMapping(String where, CowMemory x, Model model) {
-        int p = number(4);
-        int page = number(5);
-        boolean shared = below(2) == 0;
-        answers.due(where + "map(" + p + ", " + page + ", " + shared + ")", x.map(p, page, shared), model.map(p, page, shared));
-    }
-
-    private static void compareAttach(String where, CowMemory x, Model model) {
-        int at = place();
-        int from = place();
-        answers.due(where + "attach(" + at + ", " + from + ")", x.attach(at, from), model.attach(at, from));
-    }
-
-    private static void compareFork(String where, CowMemory x, Model model) {
-        int p = number(4);
-        int q = number(4);
-        answers.due(where + "fork(" + p + ", " + q + ")", x.fork(p, q), model.fork(p, q));
     }
 
     // An exit is made rarer still, and seldom of process 0 or 1, or most runs would end with none alive.
-    private static void compareEnding(String where, CowMemory x, Model model) {
+    private static void end(Twins x) {
         if (below(64) >= endings) {
-            answers.due(where + "sheets()", x.sheets(), model.sheets());
+            x.sheets();
         } else if (below(3) == 0) {
-            int p = below(16) == 0 ? number(4) : 2 + below(2);
-            answers.due(where + "exit(" + p + ")", x.exit(p), model.exit(p));
+            x.exit(below(16) == 0 ? number(4) : 2 + below(2));
         } else {
-            int p = number(4);
-            int page = number(5);
-            answers.due(where + "unmap(" + p + ", " + page + ")", x.unmap(p, page), model.unmap(p, page));
-        }
-    }
-
-    private static void compareWrite(String where, CowMemory x, Model model) {
-        int p = number(4);
-        int cell = number(20);
-        int value = value();
-        answers.due(where + "write(" + p + ", " + cell + ", " + value + ")", x.write(p, cell, value), model.write(p, cell, value));
-    }
-
-    private static void compareAsking(String where, CowMemory x, Model model) {
-        int p = number(4);
-        int page = number(5);
-        int cell = number(20);
-        switch (below(5)) {
-            case 0 -> answers.due(where + "isMapped(" + p + ", " + page + ")", x.isMapped(p, page), model.isMapped(p, page));
-            case 1 -> answers.due(where + "showing(" + p + ", " + page + ")", x.showing(p, page), model.showing(p, page));
-            case 2 -> answers.due(where + "total()", x.total(), model.total());
-            default -> answers.due(where + "read(" + p + ", " + cell + ")", x.read(p, cell), model.read(p, cell));
+            x.unmap(number(4), number(5));
         }
     }
 }
