@@ -1,3 +1,5 @@
+import java.lang.reflect.Field;
+
 // Promise 1
 public final class NewObjectTest extends Cases {
     public static void main(String[] args) {
@@ -99,5 +101,35 @@ public final class NewObjectTest extends Cases {
             text.append(value).append(" 1 ");
         }
         return text.append(4 * pages).append(' ').append(sum).toString();
+    }
+
+    // "clamped into 2..6": no answer tells it, so the field that keeps the number is looked at.
+
+    static void framesBelow2AreKeptAs2() {
+        for (int frames : new int[] {LOW, LOW + 1, -1, 0, 1}) {
+            due("frames kept of " + frames, framesKept(new CowMemory(frames)), 2);
+        }
+    }
+
+    static void framesFrom2To6AreKept() {
+        for (int frames = 2; frames <= 6; frames++) {
+            due("frames kept of " + frames, framesKept(new CowMemory(frames)), frames);
+        }
+    }
+
+    static void framesAbove6AreKeptAs6() {
+        for (int frames : new int[] {7, 8, 20, HIGH - 1, HIGH}) {
+            due("frames kept of " + frames, framesKept(new CowMemory(frames)), 6);
+        }
+    }
+
+    private static int framesKept(CowMemory x) {
+        try {
+            Field field = CowMemory.class.getDeclaredField("frames");
+            field.setAccessible(true);
+            return field.getInt(x);
+        } catch (ReflectiveOperationException thrown) {
+            throw new IllegalStateException(thrown);
+        }
     }
 }
