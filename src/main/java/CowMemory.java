@@ -16,7 +16,7 @@ public final class CowMemory {
     private static final int SHEETS = SLOTS;
     private static final int SHEET_CELLS = SHEETS * CELLS;
 
-    // Kept because the document gives the capacity its limits; no answer may depend on it.
+    // LANGUAGE.md wants a capacity that is given kept in a field; as it shows in no answer, nothing reads it.
     private final int frames;
     private final boolean[] alive = new boolean[PROCESSES];
     private final boolean[] mapped = new boolean[SLOTS];
